@@ -451,7 +451,7 @@ public final class RuleMatcher {
             int fields = filledFields(pattern);
             // Refused, and so left out, if there is no room.
             make(pattern / PATTERNS_PER_TYPE, fields);
-        } else if (action != NOTHING) {
+        } else if (action > NOTHING) {
             remove(bestTag[action - 1]);
         }
     }

@@ -2,6 +2,9 @@
 public final class MatchTest {
     private static final int ALL = Due.pattern(0, Due.ANY, Due.ANY, Due.ANY);
     private static final int ALL_1 = Due.pattern(1, Due.ANY, Due.ANY, Due.ANY);
+    /** Three elements for three conditions, in the order of matches: a digit is a tag. */
+    private static final int[] ROWS = {333, 332, 323, 233, 331, 313, 133, 322, 232, 223, 321, 312, 231, 213, 132, 123,
+        311, 131, 113, 222, 221, 212, 122, 211, 121, 112, 111};
 
     public static void main(String[] args) {
         matchesOfWhichRule();
@@ -17,6 +20,7 @@ public final class MatchTest {
         firstRuleLesserNumber();
         firstTag();
         firstTagFallingOrder();
+        firstTagFallingOrderAfterRemovals();
         firstTagSkipsNegative();
         Due.end();
     }
@@ -247,13 +251,26 @@ public final class MatchTest {
 
     private static void firstTagFallingOrder() {
         Due.part("promise 14, order of matches");
-        RuleMatcher x = Due.withElements(0, 2);
+        RuleMatcher x = Due.withElements(0, 3);
         Due.addRule(x, 0, 0, ALL, ALL, ALL);
-        int[] rows = {222, 221, 212, 122, 211, 121, 112, 111};
-        for (int row : rows) {
-            Due.due("firstTag(0) of " + row, x.firstTag(0), row / 100);
-            Due.due("firstTag(1) of " + row, x.firstTag(1), row / 10 % 10);
-            Due.due("firstTag(2) of " + row, x.firstTag(2), row % 10);
+        firesInOrder(x, 0);
+    }
+
+    private static void firstTagFallingOrderAfterRemovals() {
+        Due.part("promise 14, order of matches after removals");
+        RuleMatcher x = Due.withElements(0, 5);
+        x.remove(1);
+        x.remove(2);
+        Due.addRule(x, 0, 0, ALL, ALL, ALL);
+        firesInOrder(x, 2);
+    }
+
+    /** The tags are those of ROWS, each greater by more. */
+    private static void firesInOrder(RuleMatcher x, int more) {
+        for (int row : ROWS) {
+            Due.due("firstTag(0) of " + row, x.firstTag(0), row / 100 + more);
+            Due.due("firstTag(1) of " + row, x.firstTag(1), row / 10 % 10 + more);
+            Due.due("firstTag(2) of " + row, x.firstTag(2), row % 10 + more);
             Due.due("fire()", x.fire(), 0);
         }
         Due.due("firstTag(0)", x.firstTag(0), -1);

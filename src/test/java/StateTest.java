@@ -11,6 +11,7 @@ public final class StateTest {
         rule();
         ruleOrderOfTests();
         clearRules();
+        clearRulesForgets();
         elements();
         rules();
         exists();
@@ -219,6 +220,18 @@ public final class StateTest {
         Due.due("one condition, one positive", Due.addRule(x, 2, 0, ALL), -3);
         Due.due("rule(1)", x.rule(1), 0);
         Due.due("matches(0)", x.matches(0), 2);
+    }
+
+    private static void clearRulesForgets() {
+        Due.part("promise 6, fired matches");
+        RuleMatcher x = Due.withElements(0, 3);
+        for (int times = 1; times <= 3; times++) {
+            Due.due("the same rule anew", Due.addRule(x, 0, 0, ALL), 0);
+            Due.due("open(), all of them", x.open(), 3);
+            Due.due("firstTag(0), the first of all", x.firstTag(0), 3);
+            Due.due("run(times)", x.run(times), times);
+            Due.due("clearRules()", x.clearRules(), 1);
+        }
     }
 
     private static void elements() {
