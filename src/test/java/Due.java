@@ -7,6 +7,9 @@ final class Due {
     /** A value for every place where a number out of range is wanted. */
     static final int[] FAR = {Integer.MIN_VALUE, Integer.MIN_VALUE + 1, -1000000, 1000000, Integer.MAX_VALUE};
 
+    /** Added to a number, each of these gives another one that looks the same if its upper bits are lost. */
+    static final int[] WRAPS = {65536, -65536, 1 << 24, Integer.MIN_VALUE};
+
     private static int wrong = 0;
     private static int asked = 0;
     private static String part = "";
@@ -35,6 +38,11 @@ final class Due {
 
     static int pattern(int type, int e0, int e1, int e2) {
         return 8000 * type + 400 * e0 + 20 * e1 + e2;
+    }
+
+    /** The pattern that every element of the type fits. */
+    static int all(int type) {
+        return pattern(type, ANY, ANY, ANY);
     }
 
     static int making(int type, int e0, int e1, int e2) {
