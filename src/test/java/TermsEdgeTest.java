@@ -29,12 +29,14 @@ public final class TermsEdgeTest {
         negativeFindsAnyElement();
         negativeLeavesTheAssignment();
         firedIsNotOpen();
+        firedStaysSo();
         sameMatchByRuleAndTags();
         greaterTagFirst();
         fallingOrderNotConditions();
         longerRowFirst();
         lesserRuleFirst();
         sameRuleGreaterTagFirst();
+        sameRuleThreeTags();
         actionNothing();
         actionRemoves();
         actionMakesZeroForAnything();
@@ -404,6 +406,30 @@ public final class TermsEdgeTest {
         x.fire(-1);
     }
 
+    private static void firedStaysSo() {
+        Due.part("Terms, \"A match that has FIRED is not OPEN\", when others have gone");
+        Run x = Run.withElements(0, 3);
+        x.make(1, 0, 4);
+        x.make(2, 0, 5);
+        x.addRule(0, 0, 0, ALL_1);
+        x.addRule(1, 0, 0, Due.all(2), ALL);
+        x.addRule(2, 0, 0, ALL);
+        x.run(30, 7);
+        x.open(0);
+        x.remove(5, 4);
+        x.open(0);
+        x.remove(4, 3);
+        x.open(0);
+        x.remove(1, 2);
+        x.open(0);
+        x.matches(2, 2);
+        x.make(2, 0, 6);
+        x.open(2);
+        x.firesNext(1, 6, 3);
+        x.firesNext(1, 6, 2);
+        x.fire(-1);
+    }
+
     private static void sameMatchByRuleAndTags() {
         Due.part("Terms, \"A match is the same match as long as\"");
         Run x = Run.withElements(0, 2);
@@ -508,13 +534,27 @@ public final class TermsEdgeTest {
     }
 
     private static void sameRuleGreaterTagFirst() {
-        Due.part("Terms, \"for the same rule, the match whose tags, in the order of the conditions, have the greater\"");
+        Due.part("Terms, \"for the same rule, the match whose tags, in the order of the conditions\"");
         Run x = Run.withElements(0, 3);
         x.remove(2, 2);
         x.addRule(0, 0, 0, ALL, ALL, ALL);
         int[][] rows = {{3, 3, 3}, {3, 3, 1}, {3, 1, 3}, {1, 3, 3}, {3, 1, 1}, {1, 3, 1}, {1, 1, 3}, {1, 1, 1}};
         for (int[] row : rows) {
             x.firesNext(0, row);
+        }
+        x.fire(-1);
+    }
+
+    private static void sameRuleThreeTags() {
+        Due.part("Terms, \"the greater tag at the first difference\"");
+        // A digit is a tag.
+        int[] rows = {444, 443, 434, 344, 442, 424, 244, 433, 343, 334, 432, 423, 342, 324, 243, 234, 422, 242, 224,
+            333, 332, 323, 233, 322, 232, 223, 222};
+        Run x = Run.withElements(0, 4);
+        x.remove(1, 3);
+        x.addRule(0, 0, 0, ALL, ALL, ALL);
+        for (int row : rows) {
+            x.firesNext(0, row / 100, row / 10 % 10, row % 10);
         }
         x.fire(-1);
     }
