@@ -5,13 +5,13 @@ public final class ModelTest {
     private static final int RUNS = 300;
     private static final int CALLS = 512;
 
-    private static long seed;
+    private static Numbers numbers;
     /** How often each kind of answer came, so that a run that reaches too little is noticed. */
     private static final TreeMap<String, Integer> seen = new TreeMap<>();
 
     public static void main(String[] args) {
         for (int run = 0; run < RUNS; run++) {
-            seed = 1000003L * run + 17;
+            numbers = new Numbers(1000003L * run + 17);
             oneRun(run);
         }
         everyAnswerWasSeen();
@@ -101,10 +101,8 @@ public final class ModelTest {
         }
     }
 
-    /** A plain generator of its own: the same numbers on every machine and every day. */
     private static int below(int bound) {
-        seed = seed * 6364136223846793005L + 1442695040888963407L;
-        return (int) ((seed >>> 33) % bound);
+        return numbers.below(bound);
     }
 
     private static int type() {

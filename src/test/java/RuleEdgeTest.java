@@ -14,6 +14,7 @@ public final class RuleEdgeTest {
         conditionInThisOrder();
         conditionAnswersHowMany();
         conditionAtTheEnd();
+        conditionStaysInTheDraft();
         ruleEmptyDraft();
         ruleAction();
         ruleTooFewPositive();
@@ -150,6 +151,27 @@ public final class RuleEdgeTest {
         x.addRule(1, 0, 2, ALL_1, Due.all(3), Due.all(2));
         x.firesNext(0, 3, 1, 2);
         x.firesNext(1, 2, 3);
+    }
+
+    private static void conditionStaysInTheDraft() {
+        Due.part("promise 4, the draft, whatever is done in between");
+        Run x = Run.withElements(0, 3);
+        x.addRule(0, 1, 0, ALL);
+        x.addRule(1, Due.making(1, 0, 0, 0), 0, Due.all(2));
+        x.condition(ALL, 0, 1);
+        x.remove(1, 2);
+        x.condition(ALL_1, 1, 2);
+        x.fire(0);
+        x.make(2, 0, 4);
+        x.condition(ALL, 0, 3);
+        x.run(30, 2);
+        x.fire(-1);
+        x.remove(5, 1);
+        x.condition(ALL, 0, -2);
+        x.rule(3, -3);
+        x.rule(2, 2);
+        x.make(0, 0, 6);
+        x.matches(2, 1);
     }
 
     private static void ruleEmptyDraft() {

@@ -11,6 +11,7 @@ public final class TermsEdgeTest {
         atMostTwelveElements();
         tagsInTheOrderOfMaking();
         tagsNeverUsedAgain();
+        tagsNeverUsedAgainWhenAllIsGone();
         typesOfElements();
         typesOfPatterns();
         fieldsOfElements();
@@ -28,6 +29,7 @@ public final class TermsEdgeTest {
         extendedByEachElement();
         negativeFindsAnyElement();
         negativeLeavesTheAssignment();
+        negativeLeavesAlmostFittingAside();
         firedIsNotOpen();
         firedStaysSo();
         sameMatchByRuleAndTags();
@@ -98,6 +100,19 @@ public final class TermsEdgeTest {
         x.remove(16, 11);
         x.make(0, 0, 17);
         x.exists(16, 0);
+    }
+
+    private static void tagsNeverUsedAgainWhenAllIsGone() {
+        Due.part("Terms, \"never used again\", when no element and no rule is left");
+        Run x = Run.withElements(0, 2);
+        x.addRule(0, 1, 0, ALL);
+        x.run(30, 2);
+        x.elements(0);
+        x.clearRules(1);
+        x.make(0, 0, 3);
+        x.remove(3, 0);
+        x.clearRules(0);
+        x.make(0, 0, 4);
     }
 
     private static void typesOfElements() {
@@ -390,6 +405,29 @@ public final class TermsEdgeTest {
         x.firesNext(0, 1, 3);
         x.firesNext(2, 1);
         x.contents(4, 12288);
+    }
+
+    private static void negativeLeavesAlmostFittingAside() {
+        Due.part("Terms, \"(which stays)\", an element that fits but for one thing");
+        int[][] almost = {{3, Y, ANY, ANY}, {3, ANY, Y, ANY}, {3, ANY, ANY, Y}, {1, Y, 0, ANY}, {1, Y, ANY, 0},
+            {1, 0, Y, ANY}, {1, ANY, Y, 0}, {1, 0, ANY, Y}, {1, ANY, 0, Y}, {1, Y, Y, Y}, {1, Z, Y, Z}, {1, X, Y, Z}};
+        for (int[] absent : almost) {
+            Run x = new Run();
+            x.make(0, Due.fields(1, 0, 0), 1);
+            x.make(2, Due.fields(8, 8, 8), 2);
+            // Looked at last, or first, by the negative condition.
+            x.make(1, Due.fields(7, 6, 5), 3);
+            int first = Due.pattern(0, X, ANY, ANY);
+            int negative = Due.pattern(absent[0], absent[1], absent[2], absent[3]);
+            x.addRule(0, Due.making(3, X, Y, Z), 2, first, negative);
+            x.addRule(1, 0, 2, first, negative, Due.pattern(2, Y, Y, Z));
+            x.addRule(2, 0, 6, first, negative, Due.pattern(2, Y, Z, Z));
+            x.matches(1, 1);
+            x.matches(2, 0);
+            x.firesNext(1, 1, 2);
+            x.firesNext(0, 1);
+            x.contents(4, 12288 + Due.fields(1, 0, 0));
+        }
     }
 
     private static void firedIsNotOpen() {
